@@ -89,7 +89,10 @@ final class Model {
         return town;
     }
 
-    /** Whether some town begins with this text, looked for by trying out what could come behind. */
+    /**
+     * Whether some town begins with this text, looked for by trying out what could come behind: 9 is
+     * later than each day a, 0 to 3 are all things, and the rest of a thing can be 0, 1 and 0.
+     */
     static boolean canBecomeTown(String start, int more) {
         if (parse(start) != null) {
             return true;
@@ -97,7 +100,7 @@ final class Model {
         if (more == 0) {
             return false;
         }
-        for (char figure = '0'; figure <= '9'; figure++) {
+        for (char figure : "01239".toCharArray()) {
             if (canBecomeTown(start + figure, more - 1)) {
                 return true;
             }
