@@ -725,12 +725,21 @@ public final class ClockOnce {
         }
 
         int partsOfEarly(int worlds, int thing) {
-            return partsOf(worldsLike(worlds, 1 << thing, 0));
+            int sum = 0;
+            for (int world = 0; world < 1 << things; world++) {
+                if ((worlds >> world & 1) != 0 && !isLate(world, thing)) {
+                    sum += parts[world];
+                }
+            }
+            return sum;
         }
 
         int coinsKept(int thing, int end, int fromDay, int toDay) {
-            int daysPaid = Math.max(0, Math.min(end, toDay) - fromDay);
-            return end > toDay ? daysPaid + coins[thing] : daysPaid;
+            int daysPaid = (end < toDay ? end : toDay) - fromDay;
+            if (end > toDay) {
+                return daysPaid + coins[thing];
+            }
+            return daysPaid > 0 ? daysPaid : 0;
         }
 
         // What keeping gives in all of some worlds together, each taken as often as it has parts.
@@ -739,9 +748,7 @@ public final class ClockOnce {
                 + ofLate * coinsKept(thing, late[thing], fromDay, toDay);
         }
 
-        int wiseDay(int worlds, int thing, int fromDay) {
-            int ofEarly = partsOfEarly(worlds, thing);
-            int ofLate = partsOf(worlds) - ofEarly;
+        private int bestDay(int thing, int ofEarly, int ofLate, int fromDay) {
             int best = fromDay;
             int most = -1;
             for (int toDay = fromDay; toDay <= LAST_DAY; toDay++) {
@@ -754,10 +761,15 @@ public final class ClockOnce {
             return best;
         }
 
+        int wiseDay(int worlds, int thing, int fromDay) {
+            int ofEarly = partsOfEarly(worlds, thing);
+            return bestDay(thing, ofEarly, partsOf(worlds) - ofEarly, fromDay);
+        }
+
         int partsKeptWisely(int worlds, int thing, int fromDay) {
             int ofEarly = partsOfEarly(worlds, thing);
             int ofLate = partsOf(worlds) - ofEarly;
-            return partsKept(thing, ofEarly, ofLate, fromDay, wiseDay(worlds, thing, fromDay));
+            return partsKept(thing, ofEarly, ofLate, fromDay, bestDay(thing, ofEarly, ofLate, fromDay));
         }
     }
 
@@ -773,7 +785,6 @@ public final class ClockOnce {
         void startAnew(Town draft) {
             begun = false;
             part = 0;
-            place = 0;
             draft.empty();
         }
 

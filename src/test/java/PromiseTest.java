@@ -19,6 +19,7 @@ final class PromiseTest {
         test.promise2Write();
         test.promise3Wipe();
         test.promise4Fault();
+        test.promise4FaultAnew();
         test.promise4FaultOfRoom();
         test.promise5Town();
         test.promise6Thing();
@@ -158,6 +159,18 @@ final class PromiseTest {
         fault("CT12911T12911A12", 15);
     }
 
+    private void promise4FaultAnew() {
+        ClockOnce x = new ClockOnce();
+        String[] texts = {"CT", "C", "CT1293", "CT12911", "X", "CT12911T12911L1", "CT12911A0", "CT12911", "", "C"};
+        int[] faults = {2, NONE, 6, NONE, 0, 15, 9, NONE, 0, NONE};
+        for (int i = 0; i < texts.length; i++) {
+            Check.write(x, texts[i]);
+            due("fault() then of " + texts[i], x.fault(), faults[i]);
+            due("fault() once more of " + texts[i], x.fault(), faults[i]);
+        }
+        counts("fault() changes nothing", x, 1, 0, 0, 0);
+    }
+
     private void promise4FaultOfRoom() {
         String both = "CT12911T12911";
         fault(both + "L", 14);
@@ -171,6 +184,9 @@ final class PromiseTest {
         fault(both + "L01L10", NONE);
         fault(both + "L01L10L", 19);
         // The first is truly early, the second late: only a link from late to early is so.
+        fault("CT12911T12910L", 14);
+        fault("CT12911T12910L0", 15);
+        fault("CT12911T12910L1", 14);
         fault("CT12910T12911L0", 14);
         fault("CT12910T12911L1", 15);
         fault("CT12910T12911L10", NONE);
@@ -203,6 +219,7 @@ final class PromiseTest {
         x.sell(1);
         x.see(1, 4);
         x.seed(77);
+        x.keep(0);
         x.keep(1);
         x.write('X');
         due("town() with a fault", x.town(), STATE);
@@ -212,6 +229,7 @@ final class PromiseTest {
         due("town() anew", x.town(), 24);
         counts("anew", x, LINKED.length(), 2, 4, 1, 0, 0, 0, 0, 0, 0, 1);
         due("anew undo()", x.undo(), STATE);
+        due("anew again(0)", x.again(0), STATE);
         due("anew again(1)", x.again(1), STATE);
         due("anew asker(0, 2)", x.asker(0, 2), NONE);
         due("anew thing(1, 4)", x.thing(1, 4), NONE);
@@ -224,6 +242,12 @@ final class PromiseTest {
         due("town() of C", x.town(), 0);
         due("C: worlds(2)", x.worlds(2), 1);
         due("C: unsee()", x.unsee(), 1);
+        int[] ends = {6, 2, 6, 2, 2};
+        for (int end : ends) {
+            Check.write(x, end == 6 ? "CT26531A00" : "CT26530A00");
+            x.town();
+            due("truth anew ask(0, 0)", x.ask(0, 0), end);
+        }
     }
 
     private void promise6Thing() {
@@ -545,6 +569,14 @@ final class PromiseTest {
         due("one asker toAsk()", Check.townOf("CT26530T35480A01").toAsk(), 2);
         // Alike: the least by bits.
         due("alike toAsk()", Check.townOf("CT26530T26530A01").toAsk(), 1);
+        // 0 early makes 2 early, that 1: parts 96 and 64 (0 late) and 256 (2 late, too) and 64 (all late).
+        // Both 0 and 1 known, or 2 alone: 8704 by 480 parts; fewer things come first.
+        ClockOnce fewer = Check.townOf("CT67611T78821T13221A00A12L02L21");
+        worth("fewer", fewer, 3, 272, 15);
+        worth("fewer", fewer, 4, 272, 15);
+        due("fewer toAsk()", fewer.toAsk(), 4);
+        due("fewer by(0)", fewer.by(0), NONE);
+        due("fewer by(1)", fewer.by(1), 2);
         // Early together: one tells of both.
         due("together toAsk()", Check.townOf("CT26530T26530A01A01L01L10").toAsk(), 1);
         ClockOnce unlikely = Check.townOf(UNLIKELY);
@@ -750,6 +782,7 @@ final class PromiseTest {
         // From 0: its upper 31 bits are 167951807, by 10 there is left 7: late by 5 tenths; kept to day 5: 8.
         ClockOnce late = Check.townOf("CT26530");
         due("late year(1)", late.year(1), 8);
+        due("late, by as many tenths", Check.townOf("CT26710").year(1), 6);
         // The same draw by 9 tenths is early, and its wise day is 1 as it is dear: 1 coin and 3.
         due("early year(1)", Check.townOf("CT26930").year(1), 4);
         // Kept to day 8, which gives 2.7 in the mean, but early: 2 coins, none for it.
@@ -761,6 +794,8 @@ final class PromiseTest {
         due("on day 9 year(1)", late.year(1), 8);
         counts("after year", late, 7, 1, 0, 0, 9, 2, 1, 1, 0, 10, 0);
         yearByLinks();
+        // Never early: 8 each time.
+        due("year(30)", Check.townOf("CT26030").year(30), 240);
     }
 
     private void yearByLinks() {
