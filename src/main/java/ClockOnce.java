@@ -1053,10 +1053,9 @@ public final class ClockOnce {
         private int setsWithOneMore(Town town, int sets, int asker) {
             int more = sets;
             for (int set = 0; set < 1 << town.things; set++) {
-                for (int thing = town.first[asker]; thing <= town.last[asker]; thing++) {
-                    if ((sets >> set & 1) != 0) {
-                        more |= 1 << (set | 1 << thing);
-                    }
+                boolean isThere = (sets >> set & 1) != 0;
+                for (int thing = town.first[asker]; isThere && thing <= town.last[asker]; thing++) {
+                    more |= 1 << (set | 1 << thing);
                 }
             }
             return more;
