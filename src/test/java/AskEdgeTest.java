@@ -304,6 +304,11 @@ final class AskEdgeTest {
         share("both asked", x, 1, 0, 1);
         x.undo();
         share("undone", x, 1, 2, 1);
+        ClockOnce each = Check.townOf("C" + EVEN + EVEN + EVEN + "A00A11A22");
+        each.ask(0, 0);
+        share("one that asked does not come", each, 1, 2, 1);
+        each.ask(1, 1);
+        share("none that asked comes", each, 2, 2, 1);
     }
 
     private void shareOfThoseAlike() {

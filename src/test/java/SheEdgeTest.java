@@ -167,6 +167,11 @@ final class SheEdgeTest {
         x.sell(0);
         days(x, 9);
         due("whatever was asked, sold, ended: which()", x.which(), 1);
+        // That the second ended on day 1 she did not know on day 0.
+        ClockOnce both = seen("C" + LATER + LATER, 0, 0, 1, 4);
+        due("on day 0: which()", both.which(), 1);
+        days(both, 9);
+        due("on day 9: which()", both.which(), 1);
     }
 
     private void judgedFrom1To8() {

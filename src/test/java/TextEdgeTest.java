@@ -31,8 +31,10 @@ final class TextEdgeTest {
         test.faultIsTheFirstOne();
         test.lengthIfOnlyNotAtItsEnd();
         test.lengthSetAside();
+        test.faultToldTwice();
         test.atFirstTheTownIsC();
         test.townMadeAnew();
+        test.townOfItsOwnTextAlone();
         test.townTells10TimesThings();
         test.townKeepsTheText();
         test.keptIsGone();
@@ -270,6 +272,17 @@ final class TextEdgeTest {
         fault("48 letters", "CT1211" + "0".repeat(42), 7);
     }
 
+    private void faultToldTwice() {
+        ClockOnce x = new ClockOnce();
+        String[] texts = {things(4) + "A00A01A02A03L01L12L23", things(2) + "L01L1", "CT1", things(2) + "A01L01", "C"};
+        int[] faults = {NONE, 18, 3, NONE, NONE};
+        for (int i = 0; i < texts.length; i++) {
+            Check.write(x, texts[i]);
+            check.due("fault() of " + texts[i], x.fault(), faults[i]);
+            check.due("fault() once more of " + texts[i], x.fault(), faults[i]);
+        }
+    }
+
     private void atFirstTheTownIsC() {
         ClockOnce x = new ClockOnce();
         for (int what = 0; what <= 10; what++) {
@@ -304,6 +317,19 @@ final class TextEdgeTest {
         for (int one = 0; one < 2; one++) {
             check.due("made anew: thing(" + one + ", 4)", x.thing(one, 4), NONE);
             check.due("made anew: thing(" + one + ", 6)", x.thing(one, 6), NONE);
+        }
+    }
+
+    private void townOfItsOwnTextAlone() {
+        ClockOnce x = new ClockOnce();
+        String[] texts = {things(4), things(4), things(4) + "L01L12L23", things(2) + "L01L10", things(2), things(1), "C"};
+        int[] worlds = {16, 16, 5, 2, 4, 2, 1};
+        int[] links = {0, 0, 3, 2, 0, 0, 0};
+        for (int i = 0; i < texts.length; i++) {
+            Check.write(x, texts[i]);
+            x.town();
+            check.due("of no other town: worlds(0) of " + texts[i], x.worlds(0), worlds[i]);
+            check.due("of no other town: count(3) of " + texts[i], x.count(3), links[i]);
         }
     }
 
