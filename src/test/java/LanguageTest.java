@@ -6,7 +6,9 @@ import java.nio.file.Files;
 import java.nio.file.Path;
 import java.util.ArrayList;
 import java.util.List;
+import java.util.Map;
 import java.util.Set;
+import java.util.TreeMap;
 import java.util.TreeSet;
 import java.util.regex.Matcher;
 import java.util.regex.Pattern;
@@ -29,12 +31,21 @@ final class LanguageTest {
         "\\bSystem\\.(?!arraycopy)", "\\bstatic\\s*\\{", "\\bdouble\\b", "\\bfloat\\b", "\\bvar\\b"
     };
 
+    private static final Set<String> LIBRARY = Set.of("Integer.bitCount", "System.arraycopy");
+    private static final Pattern LOOP =
+        Pattern.compile(" *for \\(int (\\w+) = [^;]+; [^;]*\\b\\1 <=? [^;]+; \\1\\+\\+\\) \\{");
+    private static final Pattern DECLARED =
+        Pattern.compile("( {4}| {8})(?:(?:public|private|static) )*(?:[\\w\\[\\]]+ )?(\\w+)\\(.*\\) \\{");
+    private static final int MOST_DEEP = 8;
+
     private final Check check = new Check("LanguageTest");
     private final String source;
+    private final String code;
     private final List<Class<?>> classes = new ArrayList<>();
 
     private LanguageTest(String source) {
         this.source = source;
+        this.code = source.replaceAll("(?s)/\\*.*?\\*/", "").replaceAll("//[^\n]*", "");
         classes.add(ClockOnce.class);
         classes.addAll(List.of(ClockOnce.class.getDeclaredClasses()));
     }
@@ -47,6 +58,9 @@ final class LanguageTest {
         test.methods();
         test.words();
         test.nothingMadeByCalls();
+        test.library();
+        test.loops();
+        test.depth();
         test.check.end();
     }
 
@@ -126,7 +140,6 @@ final class LanguageTest {
     }
 
     private void words() {
-        String code = source.replaceAll("(?s)/\\*.*?\\*/", "").replaceAll("//[^\n]*", "");
         for (String word : FORBIDDEN) {
             Matcher m = Pattern.compile(word).matcher(code);
             check.holds("no " + word, !m.find());
@@ -145,5 +158,73 @@ final class LanguageTest {
                 check.holds("made by a field or the constructor: " + line.trim(), isField || line.contains("slots[slot] = new Life();"));
             }
         }
+    }
+
+    private void library() {
+        Set<String> own = new TreeSet<>();
+        for (Class<?> c : classes) {
+            own.add(c.getSimpleName());
+        }
+        Matcher call = Pattern.compile("\\b([A-Z]\\w*[a-z]\\w*)\\.(\\w+)\\(").matcher(code);
+        while (call.find()) {
+            String name = call.group(1) + "." + call.group(2);
+            check.holds(name + " is allowed", own.contains(call.group(1)) || LIBRARY.contains(name));
+        }
+    }
+
+    /** Each loop counts one variable up to a bound, and nothing else in it sets that variable. */
+    private void loops() {
+        String[] lines = code.split("\n");
+        for (int i = 0; i < lines.length; i++) {
+            check.holds("only for: " + lines[i].trim(), !lines[i].matches(".*\\b(while|do)\\b.*"));
+            if (lines[i].matches(".*\\bfor\\b.*")) {
+                Matcher loop = LOOP.matcher(lines[i]);
+                check.holds("counts to a bound: " + lines[i].trim(), loop.matches());
+                check.holds("counts alone: " + lines[i].trim(), loop.matches() && !body(lines, i).matches(
+                    "(?s).*\\b" + loop.group(1) + "( [-+*/%&|^]?= |\\+\\+|--).*"));
+            }
+        }
+    }
+
+    /** What stands behind a line up to the brace that closes what the line opens. */
+    private static String body(String[] lines, int at) {
+        String closing = lines[at].replaceAll("\\S.*", "") + "}";
+        StringBuilder body = new StringBuilder();
+        for (int i = at + 1; i < lines.length && !lines[i].equals(closing); i++) {
+            body.append(lines[i]).append('\n');
+        }
+        return body.toString();
+    }
+
+    /** Methods of one name are taken as one, so the depth found is never less than the true one. */
+    private void depth() {
+        Map<String, String> bodies = new TreeMap<>();
+        String[] lines = code.split("\n");
+        for (int i = 0; i < lines.length; i++) {
+            Matcher declared = DECLARED.matcher(lines[i]);
+            if (declared.matches()) {
+                bodies.merge(declared.group(2), body(lines, i), String::concat);
+            }
+        }
+        for (Class<?> c : classes) {
+            for (Method m : c.getDeclaredMethods()) {
+                check.holds("found: " + m, bodies.containsKey(m.getName()));
+            }
+        }
+        for (String name : bodies.keySet()) {
+            check.holds(name + " goes eight deep at most", deepest(name, bodies, MOST_DEEP + 1) <= MOST_DEEP);
+        }
+    }
+
+    /** A recursion, too, goes deeper than it is looked at. */
+    private static int deepest(String name, Map<String, String> bodies, int most) {
+        int deepest = 0;
+        Matcher call = Pattern.compile("\\b(\\w+)\\(").matcher(bodies.get(name));
+        while (most > 1 && call.find()) {
+            if (bodies.containsKey(call.group(1))) {
+                deepest = Math.max(deepest, deepest(call.group(1), bodies, most - 1));
+            }
+        }
+        return deepest + 1;
     }
 }
